@@ -644,7 +644,6 @@ public final class AskingPupil {
 
         /** Puts the least STATE of each one's group by WORDS of at most so many LETTERS; how many groups. */
         int part(int rounds, int[] group) {
-            Arrays.fill(before, 0);
             // A round more than LETTERS: the first parts by OUTPUT alone.
             for (int round = 0; round <= rounds; round++) {
                 for (int s = 0; s < states && s < group.length; s++) group[s] = leastAlike(s, round > 0);
@@ -698,7 +697,6 @@ public final class AskingPupil {
         /** Reads a MACHINE into the draft: how many STATES, or where a sign can't stand. */
         int read(Machine draft) {
             at = 0;
-            draft.shape(0, 0);
             for (int s = 0; s < MOST_STATES; s++) {
                 if (!readState(draft, s)) return MISPLACED - at;
                 draft.shape(s + 1, draft.letters);
@@ -996,7 +994,7 @@ public final class AskingPupil {
             access.clear();
         }
 
-        /** The first OUTPUTS are those of ACCESS, the STATES that come are set by then. */
+        /** There is a GUESS from here on: ACCESS and the STATES that come were set before. */
         final void settle() {
             guess.shape(access.size, asking.machine.letters);
             for (int s = 0; s < access.size; s++) guess.setOutput(s, asking.ask(access.get(s)));
@@ -1223,7 +1221,6 @@ public final class AskingPupil {
         }
 
         private void joinStates() {
-            access.clear();
             for (int h = 0; h < heads.size; h++) {
                 if (isFirstOfLine(h)) access.add(heads.get(h));
             }
