@@ -647,7 +647,7 @@ public final class AskingPupil {
             // A round more than LETTERS: the first parts by OUTPUT alone.
             for (int round = 0; round <= rounds; round++) {
                 for (int s = 0; s < states && s < group.length; s++) group[s] = leastAlike(s, round > 0);
-                for (int s = 0; s < states && s < group.length; s++) before[s] = group[s];
+                for (int s = 0; s < states && s < group.length && s < before.length; s++) before[s] = group[s];
             }
             int groups = 0;
             for (int s = 0; s < states && s < group.length; s++) {
@@ -829,6 +829,7 @@ public final class AskingPupil {
             int start = (int) ((word * SCATTER) >>> 40);
             for (int i = 0; i < slots.length; i++) {
                 int place = (start + i) & (slots.length - 1);
+                if (place < 0 || place >= slots.length) return NONE;
                 if (slots[place] == word || slots[place] == 0) return place;
             }
             return NONE;

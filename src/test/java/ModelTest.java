@@ -6,8 +6,10 @@ import java.util.TreeMap;
 
 /** Runs of drawn calls on an AskingPupil and a SlowPupil side by side: each call must answer alike, and all that can be seen must be alike behind it. */
 public final class ModelTest {
-    private static final int RUNS = 600;
-    private static final int CALLS = 160;
+    private static final int RUNS = 1500;
+    /** An object is used for at most 512 calls: what draws a call leaves so many for it, and for looks behind it. */
+    private static final int CALLS = 512 - 176;
+    private static final int LOOKED_AT = 16;
     private static final String SIGNS = "01234567:,;";
     private static final Check CHECK = new Check("ModelTest");
     private static final Map<String, Method> FACE = new TreeMap<>();
@@ -25,6 +27,8 @@ public final class ModelTest {
     private static AskingPupil pupil;
     private static SlowPupil model;
     private static boolean alike;
+    /** How often the pupil was called. */
+    private static int used;
     private static final StringBuilder HISTORY = new StringBuilder();
 
     private ModelTest() {
@@ -40,7 +44,13 @@ public final class ModelTest {
             model = new SlowPupil();
             HISTORY.setLength(0);
             alike = true;
-            for (int i = 0; i < CALLS && alike; i++) callSome(i == 0 ? "draws" : CALLED[below(CALLED.length)]);
+            used = 0;
+            callSome("draws");
+            while (used < CALLS && alike) {
+                callSome(CALLED[below(CALLED.length)]);
+                if (below(6) == 0) lookAtBoth("some call");
+            }
+            lookAtBoth("the run");
         }
         CHECK.end();
     }
@@ -62,7 +72,11 @@ public final class ModelTest {
         String got = answer(FACE.get(name), pupil, arguments);
         String want = answer(MODEL.get(name), model, arguments);
         compare(told, got, want);
-        compare(told + ", all that is seen behind it:", look(pupil, FACE), look(model, MODEL));
+        compare(told + ", the ROW behind it:", row(pupil, FACE), row(model, MODEL));
+    }
+
+    private static void lookAtBoth(String what) throws Exception {
+        compare(what + ", all that is seen behind it:", look(pupil, FACE), look(model, MODEL));
     }
 
     /** A run ends with its first fault: what comes behind it tells nothing more. */
@@ -73,6 +87,7 @@ public final class ModelTest {
     }
 
     private static String answer(Method method, Object on, Object... arguments) throws IllegalAccessException {
+        if (on == pupil) used++;
         try {
             return String.valueOf(method.invoke(on, arguments));
         } catch (InvocationTargetException e) {
@@ -80,14 +95,18 @@ public final class ModelTest {
         }
     }
 
-    /** All that tells of an object's state, short of the words asked. */
+    private static String row(Object on, Map<String, Method> face) throws Exception {
+        return answer(face.get("count"), on, 7) + " " + answer(face.get("row"), on, 0);
+    }
+
+    /** All that tells of an object's state, short of the words asked; of HEADS and TAILS those that came last. */
     private static String look(Object on, Map<String, Method> face) throws Exception {
         StringBuilder seen = new StringBuilder();
         for (int what = 0; what <= 10; what++) seen.append(answer(face.get("count"), on, what)).append(' ');
         for (int i = 0; i < 9; i++) seen.append(answer(face.get("row"), on, i)).append(' ');
         for (String list : new String[] {"head", "tail"}) {
             int size = Integer.parseInt(answer(face.get(list), on, -1));
-            for (int k = 0; k < size; k++) seen.append(answer(face.get(list), on, k)).append(' ');
+            for (int k = Math.max(0, size - LOOKED_AT); k < size; k++) seen.append(answer(face.get(list), on, k)).append(' ');
         }
         return seen.toString();
     }
@@ -95,11 +114,7 @@ public final class ModelTest {
     private static void tellText() throws Exception {
         call("end", 0);
         String text = drawnText();
-        for (int i = 0; i < text.length(); i += 4) {
-            int four = 0;
-            for (int j = i; j < i + 4; j++) four = four << 8 | (j < text.length() ? text.charAt(j) : 0);
-            call("sign", four);
-        }
+        for (int i = 0; i < text.length(); i += 4) call("sign", Hand.four(text, i));
         call("end", text.length());
         call("machine");
     }
@@ -129,12 +144,13 @@ public final class ModelTest {
         for (int i = 0; i < 40; i++) {
             long word = drawnWord(1 + below(14));
             int s = model.reads(word);
-            pupil.reads(word);
             if (model.guessed(s, 0) != model.state(model.run(word), 0)) {
+                call("reads", word);
                 call("tells", word);
                 return;
             }
         }
+        call("guess");
         call("tells", model.errs());
     }
 

@@ -1,19 +1,10 @@
-import java.util.NoSuchElementException;
-
 /** The document's promises one by one, by answers worked out by hand. */
-public final class PromiseTest {
-    private static final Check CHECK = new Check("PromiseTest");
-    /** Letter 0 changes the state, letter 1 does not: the output tells whether the 0s are odd. */
-    private static final String ODD = "0:1,0;1:0,1";
-    /** The output is 1 behind 2, 5, 8 ... letters. */
-    private static final String THREE = "0:1;0:2;1:0";
-    /** The output is 1 behind three 0s in a row alone; a 1 leads back. */
-    private static final String ROWS = "0:1,0;0:2,0;0:3,0;1:3,0";
-
+public final class PromiseTest extends Hand {
     private PromiseTest() {
     }
 
     public static void main(String[] args) {
+        check = new Check("PromiseTest");
         newObject();
         sign();
         end();
@@ -61,55 +52,11 @@ public final class PromiseTest {
         ordersOfRefusal();
         machineMakesPupilNew();
         byDefinition();
-        CHECK.end();
-    }
-
-    private static void due(String what, long got, long want) {
-        CHECK.due(what, got, want);
-    }
-
-    private static void dueRow(String what, AskingPupil x, long... want) {
-        StringBuilder got = new StringBuilder();
-        for (int i = 0; i < x.count(7); i++) got.append(x.row(i)).append(' ');
-        StringBuilder due = new StringBuilder();
-        for (long number : want) due.append(number).append(' ');
-        CHECK.due("the ROW of " + what, got.toString(), due.toString());
-    }
-
-    private static void write(AskingPupil x, String text) {
-        for (int i = 0; i < text.length(); i += 4) {
-            int four = 0;
-            for (int j = i; j < i + 4; j++) four = four << 8 | (j < text.length() ? text.charAt(j) : 'z');
-            x.sign(four);
-        }
-        x.end(text.length());
-    }
-
-    private static int tell(AskingPupil x, String text) {
-        x.end(0);
-        write(x, text);
-        return x.machine();
-    }
-
-    private static AskingPupil with(String text) {
-        AskingPupil x = new AskingPupil();
-        tell(x, text);
-        return x;
-    }
-
-    private static AskingPupil with(String text, int method) {
-        AskingPupil x = with(text);
-        x.method(method);
-        return x;
-    }
-
-    /** A word's code, told by its letters. */
-    private static long w(String letters) {
-        return Long.parseLong("1" + letters, 4);
+        check.end();
     }
 
     private static void newObject() {
-        CHECK.about("promise 1");
+        check.about("promise 1");
         AskingPupil x = new AskingPupil();
         int[] counts = {0, 1, 1, 0, 0, 0, -1, 0, 0, 1, 1, -1};
         for (int what = 0; what < counts.length; what++) due("count(" + what + ")", x.count(what), counts[what]);
@@ -125,7 +72,7 @@ public final class PromiseTest {
     }
 
     private static void sign() {
-        CHECK.about("promise 2");
+        check.about("promise 2");
         AskingPupil x = new AskingPupil();
         due("first sign()", x.sign(0x303A3000), 4);
         due("second sign()", x.sign(-1), 8);
@@ -146,24 +93,24 @@ public final class PromiseTest {
     }
 
     private static void end() {
-        CHECK.about("promise 3");
+        check.about("promise 3");
         AskingPupil x = new AskingPupil();
-        CHECK.holds("end(0) of an empty text", x.end(0));
-        CHECK.holds("end(1) of an empty text is refused", !x.end(1));
-        CHECK.holds("end(-1) is refused", !x.end(-1));
+        check.holds("end(0) of an empty text", x.end(0));
+        check.holds("end(1) of an empty text is refused", !x.end(1));
+        check.holds("end(-1) is refused", !x.end(-1));
         x.sign(0x303A3030);
-        CHECK.holds("end(5) of 4 is refused", !x.end(5));
-        CHECK.holds("end(MIN) is refused", !x.end(Integer.MIN_VALUE));
+        check.holds("end(5) of 4 is refused", !x.end(5));
+        check.holds("end(MIN) is refused", !x.end(Integer.MIN_VALUE));
         due("signs then", x.count(8), 4);
-        CHECK.holds("end(4) of 4", x.end(4));
-        CHECK.holds("end(3) of 4", x.end(3));
+        check.holds("end(4) of 4", x.end(4));
+        check.holds("end(3) of 4", x.end(3));
         due("signs then", x.count(8), 3);
-        CHECK.holds("end(4) of 3 is refused", !x.end(4));
+        check.holds("end(4) of 3 is refused", !x.end(4));
         due("machine() of what is left", x.machine(), 1);
     }
 
     private static void machine() {
-        CHECK.about("promise 4");
+        check.about("promise 4");
         AskingPupil x = new AskingPupil();
         due("machine()", tell(x, "3:1,0,1;2:1,1,0"), 2);
         due("l", x.count(1), 3);
@@ -180,7 +127,7 @@ public final class PromiseTest {
     }
 
     private static void machineRefused() {
-        CHECK.about("promise 4, refused texts");
+        check.about("promise 4, refused texts");
         AskingPupil x = with(ODD);
         String eight = "0:0;0:0;0:0;0:0;0:0;0:0;0:0;0:0";
         String[] texts = {"", "4", "0", "0;", "0:", "0:8", "0:0,", "0:0:", "0:0,0,0,", "0:0,0,0,0", "0:0;", "0:0;0:0,0",
@@ -203,7 +150,7 @@ public final class PromiseTest {
     }
 
     private static void draws() {
-        CHECK.about("promise 5");
+        check.about("promise 5");
         AskingPupil x = new AskingPupil();
         // R is 5, 1222621274, -1593238901 ...: by 65536, without sign, 18655 % 2 = 1, 41225 % 3 = 2.
         due("draws(5, 3, 2, 2)", x.draws(5, 3, 2, 2), 2);
@@ -231,7 +178,7 @@ public final class PromiseTest {
     }
 
     private static void state() {
-        CHECK.about("promise 6");
+        check.about("promise 6");
         AskingPupil x = with(ODD);
         due("state(0, 0)", x.state(0, 0), 0);
         due("state(0, 1)", x.state(0, 1), 1);
@@ -244,7 +191,7 @@ public final class PromiseTest {
     }
 
     private static void run() {
-        CHECK.about("promise 7");
+        check.about("promise 7");
         AskingPupil x = with(ROWS);
         due("run of nothing", x.run(1), 0);
         due("run of 0", x.run(w("0")), 1);
@@ -258,7 +205,7 @@ public final class PromiseTest {
     }
 
     private static void joins() {
-        CHECK.about("promise 8");
+        check.about("promise 8");
         AskingPupil x = with(ODD);
         due("01 and 10", x.joins(w("01"), w("10")), w("0110"));
         due("nothing and 10", x.joins(1, w("10")), w("10"));
@@ -274,7 +221,7 @@ public final class PromiseTest {
     }
 
     private static void letter() {
-        CHECK.about("promise 9");
+        check.about("promise 9");
         AskingPupil x = with("0:0,0,0");
         due("letters of 201", x.letter(w("201"), -1), 3);
         due("letter 0", x.letter(w("201"), 0), 2);
@@ -290,7 +237,7 @@ public final class PromiseTest {
     }
 
     private static void cut() {
-        CHECK.about("promise 10");
+        check.about("promise 10");
         AskingPupil x = with("0:0,0,0");
         long word = w("0212");
         long[] first = {1, w("0"), w("02"), w("021"), word};
@@ -306,7 +253,7 @@ public final class PromiseTest {
     }
 
     private static void word() {
-        CHECK.about("promise 11");
+        check.about("promise 11");
         AskingPupil x = with("0:0,0,0");
         String[] words = {"", "0", "1", "2", "00", "01", "02", "10", "11", "12", "20", "21", "22", "000", "001"};
         for (int k = 0; k < words.length; k++) due("word(" + k + ")", x.word(k), w(words[k]));
@@ -323,11 +270,11 @@ public final class PromiseTest {
     }
 
     private static void prices() {
-        CHECK.about("promise 12");
+        check.about("promise 12");
         AskingPupil x = with(ODD);
         x.asks(w("01"));
         due("cost of 2 letters at first", x.count(4), 3);
-        CHECK.holds("prices(0, 99)", x.prices(0, 99));
+        check.holds("prices(0, 99)", x.prices(0, 99));
         due("START", x.count(9), 0);
         due("STEP", x.count(10), 99);
         due("cost stays", x.count(4), 3);
@@ -335,19 +282,19 @@ public final class PromiseTest {
         due("cost of a word asked before", x.count(4), 3);
         x.asks(w("10"));
         due("cost of 2 letters", x.count(4), 3 + 198);
-        CHECK.holds("prices(99, 0)", x.prices(99, 0));
+        check.holds("prices(99, 0)", x.prices(99, 0));
         x.asks(w("100"));
         due("cost of 3 letters", x.count(4), 3 + 198 + 99);
-        CHECK.holds("prices(100, 0) are refused", !x.prices(100, 0));
-        CHECK.holds("prices(0, 100) are refused", !x.prices(0, 100));
-        CHECK.holds("prices(-1, 0) are refused", !x.prices(-1, 0));
-        CHECK.holds("prices(0, -1) are refused", !x.prices(0, -1));
+        check.holds("prices(100, 0) are refused", !x.prices(100, 0));
+        check.holds("prices(0, 100) are refused", !x.prices(0, 100));
+        check.holds("prices(-1, 0) are refused", !x.prices(-1, 0));
+        check.holds("prices(0, -1) are refused", !x.prices(0, -1));
         due("START then", x.count(9), 99);
         due("STEP then", x.count(10), 0);
     }
 
     private static void method() {
-        CHECK.about("promise 13");
+        check.about("promise 13");
         AskingPupil x = with(THREE);
         x.prices(7, 2);
         x.learns();
@@ -377,7 +324,7 @@ public final class PromiseTest {
     }
 
     private static void asks() {
-        CHECK.about("promise 14");
+        check.about("promise 14");
         AskingPupil x = with("3:1,0;2:0,1");
         x.prices(5, 2);
         due("asks nothing", x.asks(1), 3);
@@ -399,7 +346,7 @@ public final class PromiseTest {
     }
 
     private static void known() {
-        CHECK.about("promise 15");
+        check.about("promise 15");
         AskingPupil x = with(ODD);
         due("known(nothing)", x.known(1), 0);
         x.asks(w("01"));
@@ -410,13 +357,13 @@ public final class PromiseTest {
         due("known(2)", x.known(w("2")), -1);
         due("known(code 0)", x.known(0), -1);
         due("known(31 letters)", x.known(w("0".repeat(31))), -1);
-        for (int k = 0; k < 400; k++) x.asks(x.word(k));
-        for (int k = 0; k < 500; k++) due("known(word " + k + ")", x.known(x.word(k)), k < 400 ? 1 : 0);
-        due("words asked", x.count(3), 400);
+        for (int k = 0; k < 200; k++) x.asks(kth(k, 2));
+        for (int k = 0; k < 280; k++) due("known(word " + k + ")", x.known(kth(k, 2)), k < 200 ? 1 : 0);
+        due("words asked", x.count(3), 200);
     }
 
     private static void stepInTable() {
-        CHECK.about("promise 16, a table");
+        check.about("promise 16, a table");
         AskingPupil x = with(ROWS);
         // All words of at most 2 letters answer 0.
         due("step()", x.step(), 0);
@@ -444,7 +391,7 @@ public final class PromiseTest {
     }
 
     private static void stepInTree() {
-        CHECK.about("promise 16, a tree");
+        check.about("promise 16, a tree");
         AskingPupil x = with("0:1,2;1:0,0;2:0,0", 3);
         due("step()", x.step(), 1);
         dueRow("step()", x, 1, w("0"));
@@ -461,7 +408,7 @@ public final class PromiseTest {
     }
 
     private static void guess() {
-        CHECK.about("promise 17");
+        check.about("promise 17");
         AskingPupil x = with(ODD);
         due("guess()", x.guess(), 2);
         dueRow("guess()", x, 2);
@@ -475,7 +422,7 @@ public final class PromiseTest {
     }
 
     private static void tells() {
-        CHECK.about("promise 18");
+        check.about("promise 18");
         AskingPupil x = with(THREE);
         due("tells() without a guess", x.tells(w("00")), -2);
         x.guess();
@@ -498,7 +445,7 @@ public final class PromiseTest {
     }
 
     private static void tellsByOtherMethods() {
-        CHECK.about("promise 18, methods 1, 2, 3");
+        check.about("promise 18, methods 1, 2, 3");
         AskingPupil x = with(ROWS, 1);
         x.guess();
         due("tells(1000)", x.tells(w("1000")), 4);
@@ -529,7 +476,7 @@ public final class PromiseTest {
     }
 
     private static void learns() {
-        CHECK.about("promise 19");
+        check.about("promise 19");
         for (int m = 0; m < 4; m++) {
             AskingPupil x = with(ROWS, m);
             due("learns() by method " + m, x.learns(), 4);
@@ -551,7 +498,7 @@ public final class PromiseTest {
     }
 
     private static void headsAndTails() {
-        CHECK.about("promises 20 and 21");
+        check.about("promises 20 and 21");
         AskingPupil x = with(THREE);
         x.guess();
         x.tells(w("00"));
@@ -576,7 +523,7 @@ public final class PromiseTest {
     }
 
     private static void cell() {
-        CHECK.about("promise 22");
+        check.about("promise 22");
         AskingPupil x = with(THREE);
         due("not asked yet", x.cell(0, -1, 0), -3);
         x.asks(1);
@@ -601,7 +548,7 @@ public final class PromiseTest {
     }
 
     private static void lines() {
-        CHECK.about("promise 23");
+        check.about("promise 23");
         AskingPupil x = with(THREE);
         due("lines(), nothing asked", x.lines(), -3);
         x.asks(1);
@@ -633,7 +580,7 @@ public final class PromiseTest {
     }
 
     private static void knot() {
-        CHECK.about("promise 24");
+        check.about("promise 24");
         AskingPupil x = with(THREE);
         due("knot() by method 0", x.knot(0, 0), -2);
         due("no knot by method 0", x.knot(7, 3), -2);
@@ -657,7 +604,7 @@ public final class PromiseTest {
     }
 
     private static void sift() {
-        CHECK.about("promise 25");
+        check.about("promise 25");
         AskingPupil x = with(THREE);
         due("sift() by method 0", x.sift(w("0")), -2);
         due("sift() of no word by method 0", x.sift(w("1")), -1);
@@ -681,14 +628,8 @@ public final class PromiseTest {
         due("0000 is asked", x.known(w("0000")), 1);
     }
 
-    private static AskingPupil learnt(String text) {
-        AskingPupil x = with(text);
-        x.learns();
-        return x;
-    }
-
     private static void guessed() {
-        CHECK.about("promise 26");
+        check.about("promise 26");
         AskingPupil x = with("0:2,1;1:1,0;2:0,2");
         due("guessed() without a guess", x.guessed(0, 0), -2);
         due("guessed(7, 2) without a guess", x.guessed(7, 2), -2);
@@ -708,7 +649,7 @@ public final class PromiseTest {
     }
 
     private static void access() {
-        CHECK.about("promise 27");
+        check.about("promise 27");
         AskingPupil x = with("0:2,1;1:1,0;2:0,2");
         due("access(0) without a guess", x.access(0), -2);
         due("access(7) without a guess", x.access(7), -2);
@@ -731,7 +672,7 @@ public final class PromiseTest {
     }
 
     private static void reads() {
-        CHECK.about("promise 28");
+        check.about("promise 28");
         AskingPupil x = with(THREE);
         due("reads() without a guess", x.reads(1), -2);
         due("reads() of no word without a guess", x.reads(w("1")), -1);
@@ -752,7 +693,7 @@ public final class PromiseTest {
     }
 
     private static void errs() {
-        CHECK.about("promise 29");
+        check.about("promise 29");
         AskingPupil x = with(ROWS);
         due("errs() without a guess", x.errs(), -2);
         x.guess();
@@ -766,7 +707,7 @@ public final class PromiseTest {
     }
 
     private static void wrong() {
-        CHECK.about("promise 30");
+        check.about("promise 30");
         AskingPupil x = with(ROWS);
         due("wrong(0) without a guess", x.wrong(0), -2);
         due("wrong(9) without a guess", x.wrong(9), -1);
@@ -788,7 +729,7 @@ public final class PromiseTest {
     }
 
     private static void tests() {
-        CHECK.about("promise 31");
+        check.about("promise 31");
         AskingPupil x = with(ODD);
         due("tests(0) without a guess", x.tests(0), -2);
         due("tests(3) without a guess", x.tests(3), -1);
@@ -803,7 +744,7 @@ public final class PromiseTest {
         dueRow("tests(2)", x, 10 + 24 + 32, 4, 5);
         due("tests(3)", x.tests(3), -1);
         due("tests(-1)", x.tests(-1), -1);
-        AskingPupil y = learnt(THREE);
+        AskingPupil y = learnt(THREE, 0);
         // p: nothing to 000; e: nothing and 0.
         due("tests(0) of one letter", y.tests(0), 5);
         dueRow("tests(0) of one letter", y, 10, 4, 5);
@@ -817,7 +758,7 @@ public final class PromiseTest {
     }
 
     private static void passes() {
-        CHECK.about("promise 32");
+        check.about("promise 32");
         AskingPupil x = with(ROWS);
         due("passes(0) without a guess", x.passes(0), -2);
         due("passes(3) without a guess", x.passes(3), -1);
@@ -835,7 +776,7 @@ public final class PromiseTest {
     }
 
     private static void parted() {
-        CHECK.about("promise 33");
+        check.about("promise 33");
         AskingPupil x = with(THREE);
         due("parted(0, 7) without a guess", x.parted(0, 7), -2);
         due("parted(0, 8) without a guess", x.parted(0, 8), -1);
@@ -851,7 +792,7 @@ public final class PromiseTest {
     }
 
     private static void like() {
-        CHECK.about("promise 34");
+        check.about("promise 34");
         AskingPupil x = with(ROWS);
         due("like(0, 0)", x.like(0, 0), 0);
         due("like(0, 1)", x.like(0, 1), w("00"));
@@ -869,7 +810,7 @@ public final class PromiseTest {
     }
 
     private static void least() {
-        CHECK.about("promise 35");
+        check.about("promise 35");
         AskingPupil x = with(ROWS);
         due("least()", x.least(), 4);
         dueRow("least()", x, 0, 1, 2, 3);
@@ -887,7 +828,7 @@ public final class PromiseTest {
     }
 
     private static void reach() {
-        CHECK.about("promise 36");
+        check.about("promise 36");
         AskingPupil x = with("0:3,1;0:0,1;0:2,2;0:1,4;0:4,4");
         long[] words = {1, w("1"), 0, w("0"), w("01"), -1};
         for (int s = 0; s < words.length; s++) due("reach(" + s + ")", x.reach(s), words[s]);
@@ -898,7 +839,7 @@ public final class PromiseTest {
     }
 
     private static void groups() {
-        CHECK.about("promise 37");
+        check.about("promise 37");
         AskingPupil x = with(ROWS);
         due("groups(0)", x.groups(0), 2);
         dueRow("groups(0)", x, 0, 0, 0, 3);
@@ -918,7 +859,7 @@ public final class PromiseTest {
     }
 
     private static void costs() {
-        CHECK.about("promise 38");
+        check.about("promise 38");
         AskingPupil x = with(THREE);
         int[] costs = {15, 21, 15, 15};
         long[][] rows = {{5, 1, 3, 3, 2}, {6, 1, 4, 3, 3}, {5, 1, 4, 3, 2}, {5, 1, 3, 3, 2}};
@@ -945,7 +886,7 @@ public final class PromiseTest {
     }
 
     private static void cheapest() {
-        CHECK.about("promise 39");
+        check.about("promise 39");
         AskingPupil x = with(THREE);
         due("cheapest(), three of the same cost", x.cheapest(), 0);
         dueRow("cheapest()", x, 15, 21, 15, 15);
@@ -953,25 +894,26 @@ public final class PromiseTest {
         x.prices(0, 0);
         due("cheapest() at no price", x.cheapest(), 0);
         dueRow("cheapest() at no price", x, 0, 0, 0, 0);
-        x.prices(9, 4);
         int[] cheapest = new int[4];
         for (int seed = 1; seed <= 30; seed++) {
-            x.draws(seed, 8, 2, 2);
-            int best = x.cheapest();
+            AskingPupil y = new AskingPupil();
+            y.prices(9, 4);
+            y.draws(seed, 8, 2, 2);
+            int best = y.cheapest();
             cheapest[best]++;
-            long least = x.row(best);
+            long least = y.row(best);
             for (int m = 0; m < 4; m++) {
-                x.cheapest();
-                long cost = x.row(m);
-                due("cost of method " + m + ", seed " + seed, cost, x.costs(m));
-                CHECK.holds("cheapest(), seed " + seed, m < best ? cost > least : cost >= least);
+                y.cheapest();
+                long cost = y.row(m);
+                due("cost of method " + m + ", seed " + seed, cost, y.costs(m));
+                check.holds("cheapest(), seed " + seed, m < best ? cost > least : cost >= least);
             }
         }
-        CHECK.holds("not always the same method is cheapest", cheapest[0] < 30 && cheapest[3] < 30);
+        check.holds("not always the same method is cheapest", cheapest[0] < 30 && cheapest[3] < 30);
     }
 
     private static void count() {
-        CHECK.about("promise 40");
+        check.about("promise 40");
         AskingPupil x = with(THREE, 2);
         x.prices(8, 9);
         x.sign(0);
@@ -985,35 +927,26 @@ public final class PromiseTest {
         due("numbers of the ROW of least()", x.count(7), 3);
     }
 
-    private static boolean rowThrows(AskingPupil x, int i) {
-        try {
-            x.row(i);
-            return false;
-        } catch (NoSuchElementException e) {
-            return true;
-        }
-    }
-
     private static void row() {
-        CHECK.about("promise 41");
+        check.about("promise 41");
         AskingPupil x = with(ROWS);
-        CHECK.holds("row(0) of none throws", rowThrows(x, 0));
+        check.holds("row(0) of none throws", rowThrows(x, 0));
         x.least();
         for (int i = 0; i < 4; i++) due("row(" + i + ")", x.row(i), i);
-        CHECK.holds("row(4) of 4 throws", rowThrows(x, 4));
-        CHECK.holds("row(-1) throws", rowThrows(x, -1));
-        CHECK.holds("row(MAX) throws", rowThrows(x, Integer.MAX_VALUE));
+        check.holds("row(4) of 4 throws", rowThrows(x, 4));
+        check.holds("row(-1) throws", rowThrows(x, -1));
+        check.holds("row(MAX) throws", rowThrows(x, Integer.MAX_VALUE));
         x.guess();
         due("row(0) of one", x.row(0), 1);
-        CHECK.holds("row(1) of one throws", rowThrows(x, 1));
+        check.holds("row(1) of one throws", rowThrows(x, 1));
         x.draws(3, 8, 2, 4);
         x.groups(7);
         due("numbers", x.count(7), 8);
-        CHECK.holds("row(8) of 8 throws", rowThrows(x, 8));
+        check.holds("row(8) of 8 throws", rowThrows(x, 8));
     }
 
     private static void rowStays() {
-        CHECK.about("terms 3, the ROW");
+        check.about("terms 3, the ROW");
         AskingPupil x = with(ODD);
         x.groups(0);
         dueRow("groups(0)", x, 0, 1);
@@ -1045,7 +978,7 @@ public final class PromiseTest {
     }
 
     private static void ordersOfRefusal() {
-        CHECK.about("terms 3, which of several answers below 0");
+        check.about("terms 3, which of several answers below 0");
         AskingPupil x = with(ODD);
         due("no word, no guess", x.tells(w("2")), -1);
         due("no state, no guess", x.parted(0, 9), -1);
@@ -1060,7 +993,7 @@ public final class PromiseTest {
     }
 
     private static void machineMakesPupilNew() {
-        CHECK.about("promises 4 and 5, the pupil");
+        check.about("promises 4 and 5, the pupil");
         AskingPupil x = with(THREE, 3);
         x.prices(6, 2);
         x.learns();
@@ -1083,37 +1016,52 @@ public final class PromiseTest {
         due("guess by method 0", x.count(6), -1);
     }
 
-    private static int endFrom(AskingPupil x, int s, long word) {
-        for (int i = 0; i < x.letter(word, -1); i++) s = x.state(s, 1 + x.letter(word, i));
-        return s;
+    /** The machine, or the guess: by states its output, then what comes by each letter. */
+    private static int[][] tableOf(AskingPupil x, boolean guess) {
+        int[][] table = new int[guess ? x.count(6) : x.count(2)][x.count(1) + 1];
+        for (int s = 0; s < table.length; s++) {
+            for (int what = 0; what < table[s].length; what++) table[s][what] = guess ? x.guessed(s, what) : x.state(s, what);
+        }
+        return table;
+    }
+
+    private static int endFrom(int[][] table, int s, long word) {
+        int end = s;
+        for (char letter : Long.toString(word, 4).substring(1).toCharArray()) end = table[end][1 + letter - '0'];
+        return end;
     }
 
     /** What searches answer is what comes of trying the words one by one. */
     private static void byDefinition() {
-        for (int seed = 1; seed <= 60; seed++) {
+        for (int seed = 1; seed <= 120; seed++) {
             AskingPupil x = new AskingPupil();
             x.draws(seed * 7919, 1 + seed % 5, 1 + seed % 3, 1 + seed % 4);
             x.method(seed / 3 % 4);
             x.guess();
-            CHECK.about("by definition, seed " + seed);
-            int words = x.count(1) == 1 ? 20 : 300;
+            check.about("by definition, seed " + seed);
+            int[][] machine = tableOf(x, false);
+            int[][] guess = tableOf(x, true);
+            int letters = x.count(1);
+            int words = letters == 1 ? 20 : 1000;
             long errs = 0;
             long[] like = new long[5];
             long[] reach = new long[5];
             for (int k = 0; k < words; k++) {
-                long word = x.word(k);
-                int s = x.run(word);
-                due("run(" + word + ")", s, endFrom(x, 0, word));
+                long word = kth(k, letters);
+                int s = endFrom(machine, 0, word);
+                int read = endFrom(guess, 0, word);
+                if (k < 90) due("run(" + word + ")", x.run(word), s);
+                if (k < 90) due("reads(" + word + ")", x.reads(word), read);
+                if (k < 90) dueRow("reads(" + word + ")", x, guess[read][0]);
                 if (reach[s] == 0) reach[s] = word;
-                x.reads(word);
-                if (errs == 0 && x.row(0) != x.state(s, 0)) errs = word;
-                for (int t = 0; t < x.count(2); t++) {
-                    boolean unlike = x.state(endFrom(x, t, word), 0) != x.state(s, 0);
+                if (errs == 0 && guess[read][0] != machine[s][0]) errs = word;
+                for (int t = 0; t < machine.length; t++) {
+                    boolean unlike = machine[endFrom(machine, t, word)][0] != machine[s][0];
                     if (unlike && like[t] == 0) like[t] = word;
                 }
             }
             due("errs()", x.errs(), errs);
-            for (int t = 0; t < x.count(2); t++) {
+            for (int t = 0; t < machine.length; t++) {
                 due("reach(" + t + ")", x.reach(t), reach[t]);
                 due("like(0, " + t + ")", x.like(0, t), like[t]);
             }
