@@ -228,7 +228,7 @@ public final class AskingPupil {
         return leaf;
     }
 
-    // ---- the guess
+    // ---- the guess (-2: there is none; of STATES those below 0 and those above 7 alone are none such then)
 
     public int guessed(int s, int what) {
         if (what < 0 || what > told.letters) return NONE;
@@ -890,8 +890,8 @@ public final class AskingPupil {
 
         /** How many WORDS of at most k LETTERS the two answer unlike. */
         int countUnlike(Machine one, Machine other, int k) {
-            Arrays.fill(ways, 0);
-            ways[0] = 1;
+            // The one WORD of no LETTERS leaves both in STATE 0.
+            for (int pair = 0; pair < ways.length; pair++) ways[pair] = pair == 0 ? 1 : 0;
             int unlike = 0;
             for (int n = 0; n <= k; n++) {
                 unlike += unlikeWays(one, other);

@@ -1,9 +1,13 @@
+import java.util.Set;
+import java.util.TreeSet;
+
 /** Counts what is not as due, and tells of it. */
 final class Check {
     private final String name;
     private int checks = 0;
     private int wrong = 0;
     private String topic = "";
+    private final Set<String> checked = new TreeSet<>();
 
     Check(String name) {
         this.name = name;
@@ -15,18 +19,28 @@ final class Check {
     }
 
     void due(String what, long got, long want) {
-        checks++;
+        count();
         if (got != want) tell(what + " answered " + got + ", due is " + want);
     }
 
     void due(String what, String got, String want) {
-        checks++;
+        count();
         if (!got.equals(want)) tell(what + " answered " + got + ", due is " + want);
     }
 
     void holds(String what, boolean is) {
-        checks++;
+        count();
         if (!is) tell(what);
+    }
+
+    /** Whether anything was checked about it so far. */
+    boolean wasAbout(String oldTopic) {
+        return checked.contains(oldTopic);
+    }
+
+    private void count() {
+        checks++;
+        checked.add(topic);
     }
 
     private void tell(String what) {

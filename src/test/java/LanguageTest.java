@@ -45,6 +45,7 @@ public final class LanguageTest {
         face();
         classes();
         words(source);
+        indices(source);
         lengths(source);
         CHECK.end();
     }
@@ -137,6 +138,13 @@ public final class LanguageTest {
             CHECK.due("what is thrown", thrown.group(1), "new NoSuchElementException()");
         }
         CHECK.due("throws", throwsSeen, 1);
+    }
+
+    /** An index that is a written number is not looked at before it is used. */
+    private static void indices(String source) {
+        CHECK.about("rule 7");
+        Matcher index = Pattern.compile("(?<!new (?:int|long))\\[\\s*\\d+\\s*\\]").matcher(withoutComments(source));
+        CHECK.holds("no index is a written number", !index.find());
     }
 
     /** A method's lines stand between its head, which ends with a brace, and the brace of the same depth. */

@@ -27,7 +27,8 @@ public final class PromiseTest extends Hand {
         tells();
         tellsByOtherMethods();
         learns();
-        headsAndTails();
+        head();
+        tail();
         cell();
         lines();
         knot();
@@ -52,7 +53,12 @@ public final class PromiseTest extends Hand {
         ordersOfRefusal();
         machineMakesPupilNew();
         byDefinition();
+        noPromiseLeftOut();
         check.end();
+    }
+
+    private static void noPromiseLeftOut() {
+        for (int p = 1; p <= 41; p++) check.holds("promise " + p + " was checked", check.wasAbout("promise " + p));
     }
 
     private static void newObject() {
@@ -363,7 +369,7 @@ public final class PromiseTest extends Hand {
     }
 
     private static void stepInTable() {
-        check.about("promise 16, a table");
+        check.about("promise 16");
         AskingPupil x = with(ROWS);
         // All words of at most 2 letters answer 0.
         due("step()", x.step(), 0);
@@ -497,29 +503,40 @@ public final class PromiseTest extends Hand {
         due("lessons in all", x.row(1), x.count(5));
     }
 
-    private static void headsAndTails() {
-        check.about("promises 20 and 21");
+    private static void head() {
+        check.about("promise 20");
         AskingPupil x = with(THREE);
         x.guess();
         x.tells(w("00"));
         x.guess();
         long[] heads = {3, 1, w("0"), w("00"), -1};
         for (int k = -1; k < 4; k++) due("head(" + k + ")", x.head(k), heads[k + 1]);
-        long[] tails = {2, 1, w("0"), -1};
-        for (int k = -1; k < 3; k++) due("tail(" + k + ")", x.tail(k), tails[k + 1]);
         due("head(-2)", x.head(-2), -1);
-        due("tail(-2)", x.tail(-2), -1);
         due("head(MAX)", x.head(Integer.MAX_VALUE), -1);
-        due("tail(MIN)", x.tail(Integer.MIN_VALUE), -1);
         x.method(3);
         x.learns();
         due("leaves", x.head(-1), 3);
+        due("head(1) of a tree", x.head(1), w("0"));
+        due("head(2) of a tree", x.head(2), w("00"));
+        due("head(3) of a tree", x.head(3), -1);
+    }
+
+    private static void tail() {
+        check.about("promise 21");
+        AskingPupil x = with(THREE);
+        x.guess();
+        x.tells(w("00"));
+        x.guess();
+        long[] tails = {2, 1, w("0"), -1};
+        for (int k = -1; k < 3; k++) due("tail(" + k + ")", x.tail(k), tails[k + 1]);
+        due("tail(-2)", x.tail(-2), -1);
+        due("tail(MIN)", x.tail(Integer.MIN_VALUE), -1);
+        x.method(3);
+        x.learns();
         due("knots", x.tail(-1), 2);
-        due("head(1)", x.head(1), w("0"));
-        due("head(2)", x.head(2), w("00"));
-        due("tail(0)", x.tail(0), 1);
-        due("tail(1)", x.tail(1), w("0"));
-        due("tail(2)", x.tail(2), -1);
+        due("tail(0) of a tree", x.tail(0), 1);
+        due("tail(1) of a tree", x.tail(1), w("0"));
+        due("tail(2) of a tree", x.tail(2), -1);
     }
 
     private static void cell() {
